@@ -629,16 +629,22 @@ public final class StreetMarket {
             return true;
         }
 
-        void seatDearest(int trader) {
+        // The possible start with the greatest rent, the lowest of several; one start is left out.
+        int dearestStart(int trader, int leftOut) {
             int dearest = NOWHERE;
             int most = 0;
             for (int pitch = 0; pitch < pitches; pitch++) {
                 int sum = blockRent(trader, pitch);
-                if (sum > most && hindrance(trader, pitch) == 0) {
+                if (sum > most && pitch != leftOut && hindrance(trader, pitch) == 0) {
                     most = sum;
                     dearest = pitch;
                 }
             }
+            return dearest;
+        }
+
+        void seatDearest(int trader) {
+            int dearest = dearestStart(trader, NOWHERE);
             if (dearest != NOWHERE) {
                 seat(trader, dearest);
             }
@@ -1059,17 +1065,19 @@ public final class StreetMarket {
 
         private void tryStart(int trader, int pitch, int gone) {
             int block = trader * MAX_PITCHES + pitch;
+            int own = worths[block];
+            int need = needs[block];
             int here = cell(pitch, gone, HARMLESS);
-            int after = cellAfter(trader, pitch, gone);
-            for (int kind = 0; kind < kinds; kind++) {
+            int after = cellAfter(trader, pitch, gone) - need;
+            int[] known = table;
+            for (int kind = 0; kind < kinds; kind++, here += levels) {
                 if (isBarred(trader, kind)) {
                     continue;
                 }
-                int row = here + kind * levels;
-                for (int level = needs[block]; level < levels; level++) {
-                    int worth = worths[block] + table[after + level - needs[block]];
-                    if (worth > table[row + level]) {
-                        table[row + level] = worth;
+                for (int level = need; level < levels; level++) {
+                    int worth = own + known[after + level];
+                    if (worth > known[here + level]) {
+                        known[here + level] = worth;
                     }
                 }
             }
@@ -1170,7 +1178,8 @@ public final class StreetMarket {
         }
     }
 
-    // Finds the best insertion of a trader by trying every choice of moved traders and of new starts.
+    // Finds the best insertion of a trader by trying every choice of moved traders and of new starts, but for
+    // those that cannot be better than the best one found so far.
     private static final class Insertion {
         private final Market street = new Market();
         final Market found = new Market();
@@ -1179,6 +1188,8 @@ public final class StreetMarket {
         private final int[] oldStarts = new int[MAX_TRADERS];
         // The newcomer and, behind it, the traders who move.
         private final int[] walkers = new int[1 + MAX_MOVES];
+        // The rent that the walkers from the index on pay together at most, beside those who stay.
+        private final int[] hopes = new int[2 + MAX_MOVES];
 
         void search(Market present, int newcomer, int moves) {
             street.copyFrom(present);
@@ -1191,7 +1202,9 @@ public final class StreetMarket {
 
         // Tries the movers chosen so far, then each choice with one more of the traders from first on.
         private void chooseMovers(int moved, int first, int moves) {
-            seatWalkers(0, moved, street.totalRent());
+            if (sumHopes(moved)) {
+                seatWalkers(0, moved, street.totalRent());
+            }
             if (moved >= moves || moved >= MAX_MOVES) {
                 return;
             }
@@ -1205,7 +1218,27 @@ public final class StreetMarket {
             }
         }
 
+        // Answers whether each walker has a possible start beside those who stay.
+        private boolean sumHopes(int moved) {
+            hopes[moved + 1] = 0;
+            for (int i = moved; i >= 0; i--) {
+                int dearest = street.dearestStart(walkers[i], oldStarts[walkers[i]]);
+                if (dearest == NOWHERE) {
+                    return false;
+                }
+                hopes[i] = hopes[i + 1] + street.blockRent(walkers[i], dearest);
+            }
+            return true;
+        }
+
+        private boolean isHopeless(int moved, int highestIncome) {
+            return highestIncome < mostIncome || highestIncome == mostIncome && moved > fewestMoved;
+        }
+
         private void seatWalkers(int next, int moved, int income) {
+            if (isHopeless(moved, income + hopes[next])) {
+                return;
+            }
             if (next > moved || next > MAX_MOVES) {
                 consider(moved, income);
                 return;
