@@ -532,8 +532,9 @@ public final class StreetMarket {
             return (clashes[first] >> second & 1) != 0;
         }
 
-        boolean shareRow(int pitch, int next) {
-            return hasPitch(pitch) && hasPitch(next) && rows[pitch] == rows[next];
+        // Whether all pitches from first to last exist and are of one row.
+        boolean shareRow(int first, int last) {
+            return first >= 0 && first <= last && last < pitches && rows[first] == rows[last];
         }
 
         boolean isInOneRow(int trader, int start) {
@@ -593,7 +594,7 @@ public final class StreetMarket {
         }
 
         boolean clashesWith(int trader, int other) {
-            return other != NOBODY && areClashing(trades[trader], trades[other]);
+            return other != NOBODY && (clashes[trades[trader]] >> trades[other] & 1) != 0;
         }
 
         int hindrance(int trader, int start) {
@@ -917,7 +918,7 @@ public final class StreetMarket {
             }
             int numberAt = position;
             int number = 0;
-            while (isDigit(position)) {
+            while (position < length && isDigit(position)) {
                 // Held just above every range, so that a long number cannot wrap around.
                 number = Math.min(number * 10 + text[position] - '0', MAX_LIMIT + 1);
                 position++;
@@ -956,6 +957,8 @@ public final class StreetMarket {
         // For each trader and start: what the trader is worth there, 0 if it cannot stand there at all.
         private final int[] worths = new int[MAX_TRADERS * MAX_PITCHES];
         private final int[] needs = new int[MAX_TRADERS * MAX_PITCHES];
+        // For each trader and start: the kind of neighbour that the pitch behind the block has then.
+        private final int[] kindsBehind = new int[MAX_TRADERS * MAX_PITCHES];
         private final int[] kindOf = new int[MAX_TRADERS];
         // For each kind of neighbour a bit for each trader who may not stand beside it.
         private final int[] barred = new int[MAX_TRADERS + 1];
@@ -1014,6 +1017,8 @@ public final class StreetMarket {
                     boolean possible = street.isInOneRow(trader, pitch) && street.affords(trader, pitch);
                     worths[block] = possible ? street.blockRent(trader, pitch) * INCOME_UNIT + 1 : 0;
                     needs[block] = street.coversFor(trader, pitch);
+                    int next = pitch + street.fronts[trader];
+                    kindsBehind[block] = kindBeside(trader, next - 1, next);
                     need = Math.max(need, possible ? needs[block] : 0);
                 }
                 mostNeeded += need;
@@ -1084,8 +1089,8 @@ public final class StreetMarket {
         }
 
         private int cellAfter(int trader, int pitch, int gone) {
-            int next = pitch + street.fronts[trader];
-            return cell(next, gone | 1 << trader, kindBeside(trader, next - 1, next));
+            int kind = kindsBehind[trader * MAX_PITCHES + pitch];
+            return cell(pitch + street.fronts[trader], gone | 1 << trader, kind);
         }
 
         // The income of the best placement if the traders of a set stay away.
@@ -1107,11 +1112,12 @@ public final class StreetMarket {
                 if (trader == NOBODY) {
                     kind = HARMLESS;
                 } else {
+                    int block = trader * MAX_PITCHES + pitch;
                     market.seat(trader, pitch);
                     gone |= 1 << trader;
-                    level -= needs[trader * MAX_PITCHES + pitch];
+                    level -= needs[block];
+                    kind = kindsBehind[block];
                     end = pitch + street.fronts[trader];
-                    kind = kindBeside(trader, end - 1, end);
                 }
             }
         }

@@ -60,6 +60,15 @@ public final class PlanningTest {
     }
 
     private static void bestFollowsEveryChange() {
+        StreetMarket covered = TestKit.loaded("row 5 6 7; trader 0 front 3 limit 99 cover;");
+        KIT.is("no covers", covered.bestIncome(), 0);
+        covered.setCovers(4);
+        KIT.is("after setCovers to 4", covered.bestIncome(), 18);
+        StreetMarket grown = TestKit.loaded("row 5 6;");
+        for (int t = 0; t < 2; t++) {
+            grown.addTrader(0, 1, 9, false);
+            KIT.is("after addTrader " + t, grown.bestIncome(), t == 0 ? 6 : 11);
+        }
         StreetMarket m = TestKit.loaded("row 5 6; trader 0 front 1 limit 9;");
         KIT.is("at first", m.bestIncome(), 6);
         m.setRent(1, 8);
@@ -156,6 +165,10 @@ public final class PlanningTest {
         KIT.is("nobody comes", rentFor("row 50 50;", 0), 1);
         KIT.is("up to the limit", rentFor("row 50 50; trader 0 front 1 limit 70;", 0), 70);
         KIT.is("up to 999", rentFor("row 50; trader 0 front 1 limit 9999;", 0), 999);
+        KIT.is("the present rent is the best one", rentFor("row 70 50; trader 0 front 1 limit 70;", 0), 70);
+        KIT.is("rows part a clash on the right", rentFor("row 5; row 20; clash 0 1; trader 0 front 1 limit 20; trader 1 front 1 limit 19;", 0), 19);
+        KIT.is("rows part a clash on the left", rentFor("row 20; row 5; clash 0 1; trader 0 front 1 limit 20; trader 1 front 1 limit 19;", 1), 19);
+        KIT.is("1 for a block, before 30 for one pitch", rentFor("row 50 60; trader 0 front 2 limit 51; trader 0 front 1 limit 30;", 1), 1);
         KIT.is("the limit of the whole block", rentFor("row 50 60; trader 0 front 2 limit 200;", 1), 150);
         KIT.is("a block that cannot be paid anyway", rentFor("row 50 60; trader 0 front 2 limit 50;", 1), 1);
         KIT.is("just 1 is left", rentFor("row 50 60; trader 0 front 2 limit 51;", 1), 1);
@@ -233,8 +246,8 @@ public final class PlanningTest {
         KIT.is("one who cannot come", m.firstCome(4L), 0);
         KIT.is("and the next can", m.firstCome(41L), 9);
         KIT.is("the present placement stays", TestKit.placement(m), "..0");
-        StreetMarket ties = TestKit.loaded("row 5 6 5; clash 0 0; trader 0 front 1 limit 5; trader 0 front 1 limit 6;");
-        KIT.is("equal rents: the lowest pitch, so the next one has the last pitch", ties.firstCome(12L), 10);
+        StreetMarket ties = TestKit.loaded("row 5 6 5 7; clash 0 0; trader 0 front 1 limit 5; trader 0 front 1 limit 7;");
+        KIT.is("equal rents: the lowest pitch, so the next one has the last pitch", ties.firstCome(12L), 12);
         StreetMarket covers = TestKit.loaded("row 5 6; covers 1; trader 0 front 1 limit 9 cover; trader 0 front 1 limit 9 cover; trader 0 front 1 limit 9;");
         KIT.is("the cover goes to who comes first", covers.firstCome(123L), 11);
         StreetMarket eight = TestKit.loaded("row 1 2 3 4 5 6 7 8; trader 0 front 1 limit 9;trader 0 front 1 limit 9;trader 0 front 1 limit 9;"

@@ -63,7 +63,7 @@ public final class SetupTest {
     }
 
     private static void loadReplacesOrKeeps() {
-        StreetMarket m = TestKit.loaded("row 5 6; row 7; trader 3 front 1 limit 9; clash 1 2; covers 2;");
+        StreetMarket m = TestKit.loaded("row 5 6; row 7; trader 3 front 1 limit 9; clash 1 2; clash 0 0; covers 2;");
         m.place(0, 1);
         String before = TestKit.state(m);
         m.append(0x726f7720, 0, 0, 0, 0);
@@ -78,7 +78,7 @@ public final class SetupTest {
         KIT.is("the market stays at an error", m.rent(2) + " " + m.start(0) + " " + m.clash(2, 1), "7 1 true");
         KIT.is("spaces only", m.load(20), 0);
         KIT.is("an empty market", m.pitchCount() + m.traderCount() + m.setCovers(0), 0);
-        KIT.is("no clashes", m.clash(1, 2), false);
+        KIT.is("no clashes", m.clash(1, 2) || m.clash(0, 0), false);
         StreetMarket n = TestKit.loaded("row 1 1; trader 0 front 1 limit 1;");
         n.place(0, 0);
         TestKit.load(n, "row 1 1; trader 0 front 1 limit 1;");
@@ -125,6 +125,15 @@ public final class SetupTest {
         KIT.isThrown("no change by '" + text + "'", ISE, m::undo);
     }
 
+    /** The text ends before bytes that would go on with it: a syntax error. */
+    private static void cut(String text, int length, int at) {
+        StreetMarket m = new StreetMarket();
+        int[] w = TestKit.five(TestKit.bytes(text), 0);
+        m.append(w[0], w[1], w[2], w[3], w[4]);
+        KIT.is("load(" + length + ") of '" + text + "'", m.load(length), -2);
+        KIT.is("errorPosition of load(" + length + ") of '" + text + "'", m.errorPosition(), at);
+    }
+
     private static void syntaxErrors() {
         bad("row", -2, 3);
         bad("row   ", -2, 6);
@@ -137,6 +146,13 @@ public final class SetupTest {
         bad("row 5 cover;", -2, 6);
         bad("row 5 roofs;", -2, 6);
         bad("row 5 roo;", -2, 6);
+        bad("row 5 roofa;", -2, 6);
+        bad("row 5 roofz;", -2, 6);
+        cut("row 5 roofs;", 10, 10);
+        cut("row 5;", 2, 0);
+        cut("row 5;", 5, 5);
+        cut("covers 44;", 8, 8);
+        cut("covers 4;", 8, 8);
         bad("rows 5;", -2, 0);
         bad("ro 5;", -2, 0);
         bad("roW 5;", -2, 0);
