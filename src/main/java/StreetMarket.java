@@ -948,6 +948,8 @@ public final class StreetMarket {
         private static final int INCOME_UNIT = 16;
         // The kind of neighbour beside whom everybody may stand; a free pitch and a row's end are of it too.
         private static final int HARMLESS = 0;
+        private static final int LARGEST_TABLE =
+            (MAX_PITCHES + 1) * (1 << MAX_TRADERS) * (MAX_TRADERS + 1) * (MAX_COVERS + 2);
 
         private final Market street = new Market();
         private int[] table = new int[1024];
@@ -1029,7 +1031,8 @@ public final class StreetMarket {
 
         private void makeRoom(int size) {
             if (table.length < size) {
-                table = new int[Math.max(size, 2 * table.length)];
+                // At least twice as much, so that a market that grows often does not fill the room with old tables.
+                table = new int[Math.max(size, Math.min(2 * table.length, LARGEST_TABLE))];
             }
         }
 
