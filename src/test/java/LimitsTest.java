@@ -73,6 +73,11 @@ public final class LimitsTest {
         m.place(6, 21);
         KIT.is("two move", m.insertionIncome(7, 1) + " " + m.insert(7, 2), "-1 2");
         KIT.is("a full street, the first placement", TestKit.placement(m), "000111222333444555777666");
+        KIT.is("expectedIncome of eight", m.expectedIncome(1.0), 12.0);
+        KIT.is("eight come", m.firstCome(87654321L), 24);
+        m.setClash(0, 6, true);
+        KIT.is("a full street has no clash of 0 and 6", m.clash(6, 0), true);
+        KIT.isThrown("6 and 7 stand side by side", IllegalStateException.class, () -> { m.setClash(6, 7, true); return 0; });
     }
 
     private static long elementsOf(Object o, Set<Object> seen) throws IllegalAccessException {

@@ -150,6 +150,7 @@ public final class SetupTest {
         bad("row 5 roofz;", -2, 6);
         cut("row 5 roofs;", 10, 10);
         cut("row 5;", 2, 0);
+        cut("row5;", 3, 3);
         cut("row 5;", 5, 5);
         cut("covers 44;", 8, 8);
         cut("covers 4;", 8, 8);
