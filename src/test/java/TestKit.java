@@ -8,12 +8,18 @@ final class TestKit {
 
     private int asked = 0;
     private int wrong = 0;
+    private String sentence = "";
+
+    /** The sentence of the document that the questions from here on test; it is told with each wrong answer. */
+    void says(String words) {
+        sentence = "'" + words + "': ";
+    }
 
     void is(String what, Object got, Object due) {
         asked++;
         if (!due.equals(got)) {
             wrong++;
-            System.out.println(what + " answered " + got + ", due is " + due);
+            System.out.println(sentence + what + " answered " + got + ", due is " + due);
         }
     }
 
