@@ -19,6 +19,7 @@ public final class ChangeEdgesTest {
     public static void main(String[] args) {
         everyKindIsAChange();
         alsoIfNothingIsDifferent();
+        presentPlacementIsValid();
         noOtherCallIsAChange();
         loadWithAnErrorIsNone();
         sixAndNoMore();
@@ -114,6 +115,41 @@ public final class ChangeEdgesTest {
         empty.setCovers(0);
         empty.setClash(0, 0, false);
         KIT.is("five changes of an empty market", empty.undo(), 4);
+    }
+
+    private static void presentPlacementIsValid() {
+        KIT.says("The market has a present placement, which is always valid.");
+        for (Named first : changes()) {
+            for (Named second : changes()) {
+                StreetMarket m = begun();
+                first.step().make(m);
+                TestKit.outcome(() -> { second.step().make(m); return 0; });
+                String name = first.name() + ", then " + second.name();
+                KIT.is("valid after " + name, isValid(m), true);
+                m.undo();
+                KIT.is("valid after undo of " + name, isValid(m), true);
+            }
+        }
+    }
+
+    /** In a valid placement each trader that is taken out of it could be placed again just where it stood. */
+    private static boolean isValid(StreetMarket m) {
+        int covers = m.setCovers(4);
+        m.undo();
+        int pitches = 0;
+        for (int t = 0; t < m.traderCount(); t++) {
+            int start = m.start(t);
+            if (start >= 0) {
+                pitches += m.frontage(t);
+                m.remove(t);
+                boolean possible = m.obstacle(t, start) == 0;
+                m.undo();
+                if (!possible) {
+                    return false;
+                }
+            }
+        }
+        return m.coversUsed() <= covers && TestKit.placement(m).replace(".", "").length() == pitches;
     }
 
     private static void noOtherCallIsAChange() {
