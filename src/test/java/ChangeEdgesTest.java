@@ -6,8 +6,8 @@ public final class ChangeEdgesTest {
     private static final Class<IllegalStateException> ISE = IllegalStateException.class;
     private static final int BLANK = 0x20202020;
     private static final TestKit KIT = new TestKit();
-    private static final String STREET = "row 5 6 7 8; row 9roof; covers 1; clash 6 6; trader 0 front 1 limit 9;"
-        + "trader 1 front 1 limit 9 cover; trader 2 front 2 limit 20; trader 3 front 1 limit 9 cover;";
+    private static final String STREET = "row 5 6 7 8 6; row 9roof; covers 1; clash 5 5; trader 0 front 1 limit 9; trader 0 front 1 limit 9 cover;"
+        + "trader 2 front 2 limit 20; trader 3 front 1 limit 9 cover; trader 5 front 1 limit 9 cover; trader 5 front 1 limit 6;";
 
     interface Step {
         void make(StreetMarket m);
@@ -48,11 +48,11 @@ public final class ChangeEdgesTest {
         all.add(new Named("load of an empty text", m -> m.load(0)));
         all.add(new Named("setRent", m -> m.setRent(1, 999)));
         all.add(new Named("setRent that sends a trader away", m -> m.setRent(0, 10)));
-        all.add(new Named("setClash", m -> m.setClash(0, 7, true)));
-        all.add(new Named("setClash, not any more", m -> m.setClash(6, 6, false)));
+        all.add(new Named("setClash", m -> m.setClash(0, 2, true)));
+        all.add(new Named("setClash, not any more", m -> m.setClash(5, 5, false)));
         all.add(new Named("setCovers", m -> m.setCovers(4)));
         all.add(new Named("addTrader", m -> m.addTrader(7, 3, 9999, true)));
-        all.add(new Named("place", m -> m.place(3, 4)));
+        all.add(new Named("place", m -> m.place(3, 5)));
         all.add(new Named("remove", m -> m.remove(1)));
         all.add(new Named("swap", m -> m.swap(0, 1)));
         all.add(new Named("clear", StreetMarket::clear));
@@ -84,7 +84,7 @@ public final class ChangeEdgesTest {
     private static List<Named> idleChanges() {
         List<Named> all = new ArrayList<>();
         all.add(new Named("setRent to the same", m -> m.setRent(0, 5)));
-        all.add(new Named("setClash of a clash", m -> m.setClash(6, 6, true)));
+        all.add(new Named("setClash of a clash", m -> m.setClash(5, 5, true)));
         all.add(new Named("setClash of no clash", m -> m.setClash(0, 1, false)));
         all.add(new Named("setCovers to the same", m -> m.setCovers(1)));
         all.add(new Named("clear of nobody", StreetMarket::clear));
@@ -172,13 +172,13 @@ public final class ChangeEdgesTest {
         m.coversUsed();
         m.expectedIncome(0.5);
         m.bestIncome();
-        m.clashCost(6, 6);
+        m.clashCost(5, 5);
         m.coverValue();
         m.contribution(0);
         m.bestRent(0);
         m.firstCome(21);
         m.insertionIncome(2, 2);
-        KIT.is("undo", m.undo() + TestKit.placement(m), "20....");
+        KIT.is("undo", m.undo() + TestKit.placement(m), "20.....");
     }
 
     private static void loadWithAnErrorIsNone() {
@@ -187,7 +187,7 @@ public final class ChangeEdgesTest {
         for (String text : new String[] {"x", "row 0;", "row 1;row 1;row 1;row 1;row 1;", "row 1"}) {
             KIT.is("an error", TestKit.load(m, text) < 0, true);
         }
-        KIT.is("undo", m.undo() + TestKit.placement(m), "20....");
+        KIT.is("undo", m.undo() + TestKit.placement(m), "20.....");
     }
 
     private static void sixAndNoMore() {

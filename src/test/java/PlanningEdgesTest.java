@@ -23,6 +23,7 @@ public final class PlanningEdgesTest {
         contribution();
         bestRent();
         bestRentOfEqualIncomes();
+        bestRentByTryingAll();
         firstComeTakesTheDearest();
         firstComeOrders();
         firstComeWrongOrders();
@@ -247,6 +248,36 @@ public final class PlanningEdgesTest {
             rentOf(0, "row 5 31; clash 1 2; trader 0 front 1 limit 30; trader 1 front 1 limit 61; trader 2 front 1 limit 31;"), 30);
     }
 
+    private static void bestRentByTryingAll() {
+        KIT.says("Returns the rent of a pitch, from 1 to 999, with which the income of the best placement would be greatest, all other rents being as they are.");
+        String[] streets = {
+            "row 9 30 4roof; row 20 7; covers 1; clash 0 1; trader 0 front 2 limit 60; trader 1 front 1 limit 25 cover; trader 1 front 2 limit 40;",
+            "row 7 20; row 4roof 30 9; covers 1; clash 0 1; trader 0 front 2 limit 60; trader 1 front 1 limit 25 cover; trader 1 front 2 limit 40;",
+            "row 5 6 7 8 9; covers 4; clash 0 0; trader 0 front 1 limit 9 cover; trader 0 front 1 limit 900 cover; trader 1 front 1 limit 30 cover; trader 1 front 3 limit 40 cover;",
+            "row 50; row 40; row 30; row 20; covers 2; trader 0 front 1 limit 45 cover; trader 0 front 1 limit 35 cover; trader 0 front 1 limit 25 cover;",
+            "row 1 1 1 1; trader 0 front 3 limit 999; trader 0 front 3 limit 998; trader 0 front 1 limit 997; trader 0 front 2 limit 9999;",
+            "row 10roof 20 10roof 20; covers 1; clash 0 1; clash 0 2; trader 0 front 1 limit 30 cover; trader 1 front 1 limit 31 cover; trader 2 front 1 limit 32 cover; trader 2 front 2 limit 33;"};
+        for (String street : streets) {
+            for (int pitch = TestKit.loaded(street).pitchCount() - 1; pitch >= 0; pitch--) {
+                KIT.is("pitch " + pitch + " of " + street, rentOf(pitch, street), rentByTryingAll(pitch, street));
+            }
+        }
+    }
+
+    private static int rentByTryingAll(int pitch, String street) {
+        StreetMarket m = TestKit.loaded(street);
+        int most = -1;
+        int answer = 0;
+        for (int rent = 1; rent <= 999; rent++) {
+            m.setRent(pitch, rent);
+            if (m.bestIncome() > most) {
+                most = m.bestIncome();
+                answer = rent;
+            }
+        }
+        return answer;
+    }
+
     // ---- promise 33
 
     private static void firstComeTakesTheDearest() {
@@ -383,6 +414,15 @@ public final class PlanningEdgesTest {
         one.place(0, 1);
         one.place(1, 3);
         KIT.is("one, though 0122 comes first", inserted(one, 2, 2), "1 0221");
+        // The newcomer can pay for the pitches 2 and 3 alone: 1 must go; that 0 goes too would change no income.
+        StreetMarket last = TestKit.loaded("row 4 9 1 1; row 4; trader 0 front 1 limit 4; trader 0 front 1 limit 9; trader 0 front 2 limit 2;");
+        last.place(0, 0);
+        last.place(1, 2);
+        KIT.is("only the one who must", inserted(last, 2, 2), "1 0122.");
+        StreetMarket first = TestKit.loaded("row 4 9 1 1; row 4; trader 0 front 1 limit 9; trader 0 front 1 limit 4; trader 0 front 2 limit 2;");
+        first.place(1, 0);
+        first.place(0, 2);
+        KIT.is("only the one who must, with the lower number", inserted(first, 2, 2), "1 1022.");
     }
 
     private static void insertionFirst() {

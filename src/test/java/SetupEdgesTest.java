@@ -118,7 +118,10 @@ public final class SetupEdgesTest {
         bad("row 1 roo f;", SYNTAX, 6);
         bad("ro w 1;", SYNTAX, 0);
         bad("arow 1;", SYNTAX, 0);
+        bad("rowa 1;", SYNTAX, 0);
         bad("rowz 1;", SYNTAX, 0);
+        bad("row 1 roofa;", SYNTAX, 6);
+        bad("row 1 roofz;", SYNTAX, 6);
         bad("trader 0 front 1 limit 1 covers;", SYNTAX, 25);
         bad("trader 0 front 1 limit 1 cove;", SYNTAX, 25);
         bad("trader 0 frontlimit 1;", SYNTAX, 9);
@@ -454,12 +457,14 @@ public final class SetupEdgesTest {
 
     private static void loadReplaces() {
         KIT.says("If it has no error, its market replaces the present one, and no trader is placed.");
-        StreetMarket m = TestKit.loaded("row 5 6roof; row 7; trader 3 front 1 limit 9; trader 4 front 1 limit 9 cover; clash 1 2; clash 3 3; covers 2;");
+        StreetMarket m = TestKit.loaded("row 5 6roof; row 7; trader 3 front 1 limit 9; trader 4 front 1 limit 9 cover; clash 1 2; clash 0 0; clash 7 7; clash 0 7; covers 2;");
         m.place(0, 0);
         m.place(1, 2);
         KIT.is("an empty market", m.load(0), 0);
         KIT.is("nothing is left", m.pitchCount() + " " + m.traderCount() + " " + m.income() + " " + m.coversUsed(), "0 0 0 0");
-        KIT.is("no clash is left", m.clash(1, 2) || m.clash(2, 1) || m.clash(3, 3), false);
+        for (int i = 0; i < 64; i++) {
+            KIT.is("no clash is left", m.clash(i / 8, i % 8), false);
+        }
         KIT.is("no cover is left", m.setCovers(0), 0);
         TestKit.load(m, "row 5 6 8; trader 3 front 1 limit 9; trader 4 front 1 limit 9;");
         KIT.is("no trader is placed", m.start(0) + " " + m.start(1) + TestKit.placement(m), "-1 -1...");

@@ -438,6 +438,12 @@ public final class StreetEdgesTest {
         pair.place(1, 1);
         KIT.is("two of it", set(pair, 7, 7, true), ISE);
         KIT.is("unset again", set(pair, 7, 7, false), "set");
+        StreetMarket full = TestKit.loaded(TWELVE + TWELVE + "trader 0 front 1 limit 99; trader 1 front 1 limit 99; trader 2 front 1 limit 99;");
+        full.place(0, 0);
+        full.place(1, 22);
+        full.place(2, 23);
+        KIT.is("the last two pitches of a full market", set(full, 1, 2, true), ISE);
+        KIT.is("its first and its last pitch", set(full, 0, 2, true), "set");
         StreetMarket wide = TestKit.loaded("row 1 1 1; trader 7 front 3 limit 9;");
         wide.place(0, 0);
         KIT.is("one on three pitches", set(wide, 7, 7, true), "set");
