@@ -256,6 +256,10 @@ public final class PlanningEdgesTest {
             "row 5 6 7 8 9; covers 4; clash 0 0; trader 0 front 1 limit 9 cover; trader 0 front 1 limit 900 cover; trader 1 front 1 limit 30 cover; trader 1 front 3 limit 40 cover;",
             "row 50; row 40; row 30; row 20; covers 2; trader 0 front 1 limit 45 cover; trader 0 front 1 limit 35 cover; trader 0 front 1 limit 25 cover;",
             "row 1 1 1 1; trader 0 front 3 limit 999; trader 0 front 3 limit 998; trader 0 front 1 limit 997; trader 0 front 2 limit 9999;",
+            "row 1 1; row 40 50 5; trader 0 front 2 limit 90; trader 0 front 1 limit 10;",
+            "row 1 1; row 40roof 50roof 5roof; trader 0 front 2 limit 90 cover; trader 0 front 1 limit 10;",
+            "row 5 50 40; row 1 1; trader 0 front 2 limit 90; trader 0 front 1 limit 10;",
+            "row 5roof 50roof 40roof; row 1 1; trader 0 front 2 limit 90 cover; trader 0 front 1 limit 10;",
             "row 10roof 20 10roof 20; covers 1; clash 0 1; clash 0 2; trader 0 front 1 limit 30 cover; trader 1 front 1 limit 31 cover; trader 2 front 1 limit 32 cover; trader 2 front 2 limit 33;"};
         for (String street : streets) {
             for (int pitch = TestKit.loaded(street).pitchCount() - 1; pitch >= 0; pitch--) {
