@@ -543,8 +543,8 @@ public final class StreetMarket {
 
         int blockRent(int trader, int start) {
             int sum = 0;
-            int end = Math.min(start + fronts[trader], pitches);
-            for (int pitch = start; pitch < end; pitch++) {
+            int end = start + fronts[trader];
+            for (int pitch = start; pitch < end && pitch < pitches; pitch++) {
                 sum += rents[pitch];
             }
             return sum;
@@ -556,8 +556,8 @@ public final class StreetMarket {
 
         int openPitches(int trader, int start) {
             int open = 0;
-            int end = Math.min(start + fronts[trader], pitches);
-            for (int pitch = start; pitch < end; pitch++) {
+            int end = start + fronts[trader];
+            for (int pitch = start; pitch < end && pitch < pitches; pitch++) {
                 if (!roofs[pitch]) {
                     open++;
                 }
@@ -578,8 +578,8 @@ public final class StreetMarket {
         }
 
         boolean isBlockFree(int trader, int start) {
-            int end = Math.min(start + fronts[trader], pitches);
-            for (int pitch = start; pitch < end; pitch++) {
+            int end = start + fronts[trader];
+            for (int pitch = start; pitch < end && pitch < pitches; pitch++) {
                 if (standing[pitch] != NOBODY) {
                     return false;
                 }
@@ -667,8 +667,8 @@ public final class StreetMarket {
         }
 
         private void settle(int start, int front, int trader) {
-            int end = Math.min(start + front, pitches);
-            for (int pitch = start; pitch < end; pitch++) {
+            int end = start + front;
+            for (int pitch = start; pitch < end && pitch < pitches; pitch++) {
                 standing[pitch] = trader;
             }
         }

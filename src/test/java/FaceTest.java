@@ -6,7 +6,9 @@ import java.lang.reflect.Modifier;
 import java.nio.file.Files;
 import java.nio.file.Path;
 import java.util.Arrays;
+import java.util.Map;
 import java.util.Set;
+import java.util.TreeMap;
 import java.util.TreeSet;
 import java.util.regex.Matcher;
 import java.util.regex.Pattern;
@@ -40,6 +42,7 @@ public final class FaceTest {
     public static void main(String[] args) throws IOException {
         face();
         source();
+        sizes();
         KIT.end("FaceTest");
     }
 
@@ -102,5 +105,59 @@ public final class FaceTest {
         while (calls.find()) {
             KIT.is("library call " + calls.group(), calls.group().matches("Math\\.(min|max)|System\\.arraycopy"), true);
         }
+    }
+
+    /** Rules 5 and 11: constants, the numbers of classes and fields, the lengths of methods and the depth of calls. */
+    private static void sizes() throws IOException {
+        Class<?>[] inside = StreetMarket.class.getDeclaredClasses();
+        KIT.is("at most twelve classes", inside.length + 1 <= 12, true);
+        fields(StreetMarket.class);
+        for (Class<?> type : inside) {
+            fields(type);
+        }
+        Map<String, String> bodies = bodies(Files.readString(Path.of("src/main/java/StreetMarket.java")));
+        KIT.is("methods are found", bodies.keySet().containsAll(Arrays.asList("append", "insert", "undo", "tryStart", "shareRow")), true);
+        for (Map.Entry<String, String> method : bodies.entrySet()) {
+            KIT.is(method.getKey() + " has at most sixty lines", method.getValue().lines().count() <= 60, true);
+            KIT.is("calls of " + method.getKey() + " go at most eight deep", depth(method.getKey(), bodies, new TreeSet<>()) <= 8, true);
+        }
+    }
+
+    private static void fields(Class<?> type) {
+        int own = 0;
+        for (Field f : type.getDeclaredFields()) {
+            boolean fixed = Modifier.isStatic(f.getModifiers());
+            own += fixed ? 0 : 1;
+            KIT.is(f + " is no static state", !fixed || Modifier.isFinal(f.getModifiers()) && f.getType() == int.class, true);
+        }
+        KIT.is(type + " has at most twenty fields", own <= 20, true);
+    }
+
+    /** The methods of all classes by name; methods of one name are taken together. */
+    private static Map<String, String> bodies(String text) {
+        Map<String, String> bodies = new TreeMap<>();
+        Matcher heads = Pattern.compile("^( {4}| {8})(?:public |private |static )*[\\w\\[\\]]+ (\\w+)\\([^)]*\\)[^;{]*\\{\n(.*?)^\\1\\}",
+            Pattern.MULTILINE | Pattern.DOTALL).matcher(text.replaceAll("//[^\n]*", ""));
+        while (heads.find()) {
+            bodies.merge(heads.group(2), heads.group(3), String::concat);
+        }
+        return bodies;
+    }
+
+    /** How many calls stand open at once below a method and with it, library calls too; a call back counts as none. */
+    private static int depth(String name, Map<String, String> bodies, Set<String> open) {
+        if (!bodies.containsKey(name)) {
+            return 1;
+        }
+        int deepest = 0;
+        open.add(name);
+        Matcher calls = Pattern.compile("\\b(\\w+)\\(").matcher(bodies.get(name));
+        while (calls.find()) {
+            if (!open.contains(calls.group(1))) {
+                deepest = Math.max(deepest, depth(calls.group(1), bodies, open));
+            }
+        }
+        open.remove(name);
+        return deepest + 1;
     }
 }
