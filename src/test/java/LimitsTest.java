@@ -1,3 +1,4 @@
+import java.lang.management.ManagementFactory;
 import java.lang.reflect.Array;
 import java.lang.reflect.Field;
 import java.lang.reflect.Modifier;
@@ -22,6 +23,7 @@ public final class LimitsTest {
         long small = elementsOf(new StreetMarket(), Collections.newSetFromMap(new IdentityHashMap<>()));
         KIT.is("a new object is small: " + small, small < 10000, true);
         crowdedInsertion();
+        madeByARun();
         KIT.end("LimitsTest");
     }
 
@@ -78,6 +80,32 @@ public final class LimitsTest {
         m.setClash(0, 6, true);
         KIT.is("a full street has no clash of 0 and 6", m.clash(6, 0), true);
         KIT.isThrown("6 and 7 stand side by side", IllegalStateException.class, () -> { m.setClash(6, 7, true); return 0; });
+    }
+
+    /** A run whose tables grow as often as they can, and then only dear calls: what it makes in all, not what it keeps. */
+    private static void madeByARun() {
+        com.sun.management.ThreadMXBean bean = (com.sun.management.ThreadMXBean) ManagementFactory.getThreadMXBean();
+        String text = "covers 0;row 9 8 7 6 5 4 3 2 1 2 3 4;row 5 6 7 8 9 8 7 6 5 4 3 2;";
+        TestKit.loaded(text).bestRent(0);
+        long before = bean.getCurrentThreadAllocatedBytes();
+        StreetMarket m = TestKit.loaded(text);
+        int calls = 5;
+        for (int t = 0; t < 8; t++) {
+            m.addTrader(t, 1 + t % 3, 9999, true);
+            m.bestRent(t);
+            m.setClash(t, (t + 1) % 8, true);
+            m.bestRent(t);
+            m.setCovers(t / 2);
+            m.bestRent(t);
+            calls += 6;
+        }
+        m.setCovers(4);
+        for (; calls < 511; calls += 2) {
+            m.setRent(calls % 24, 1 + calls % 9);
+            m.bestRent(calls % 24);
+        }
+        long made = (bean.getCurrentThreadAllocatedBytes() - before) / Integer.BYTES;
+        KIT.is("a run makes under a third of the room in all: " + made, made < ROOM / 3, true);
     }
 
     private static long elementsOf(Object o, Set<Object> seen) throws IllegalAccessException {

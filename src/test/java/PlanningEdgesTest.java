@@ -233,6 +233,13 @@ public final class PlanningEdgesTest {
         KIT.is("all rents are as before", full.rent(0) + " " + full.rent(23) + " " + full.bestIncome(), "1 1 24");
         KIT.is("with no cover left", rentOf(1, "row 5 5; covers 1; trader 0 front 2 limit 99 cover;"), 1);
         KIT.is("with just covers enough", rentOf(1, "row 5 5; covers 2; trader 0 front 2 limit 99 cover;"), 94);
+        // The second trader, on the pitch of 8, leaves no place for the first one beside it: the pitch had best stay free.
+        String foes = "clash 0 1; trader 0 front 1 limit 7; trader 1 front 1 limit 8;";
+        KIT.is("a clash at the last pitch", rentOf(1, "row 8 5;" + foes), 1);
+        KIT.is("a clash at the last pitch of a row", rentOf(1, "row 8 5; row 9;" + foes), 1);
+        KIT.is("a clash at the first pitch", rentOf(0, "row 5 8;" + foes), 1);
+        KIT.is("a clash at the first pitch of a row", rentOf(1, "row 9; row 5 8;" + foes), 1);
+        KIT.is("no clash beyond the row's end", rentOf(1, "row 8; row 5;" + foes) + " " + rentOf(0, "row 5; row 8;" + foes), "7 7");
     }
 
     private static void bestRentOfEqualIncomes() {
